@@ -158,6 +158,9 @@ public final class AllBedsTest {
         D.due("other", x.cat(0, 0, 2, -1), refusals + 2);
         D.due("counted", 1000 * x.count(11) + 100 * x.count(12) + 10 * x.count(14) + x.count(16), 3211);
         BothCorners y = Due.house("b01010101;p019;w20;");
+        BothCorners z = Due.house("b01010101;p010;w00;");
+        D.due("10 over 4 above", z.cat(0, 0, 4, 0), 5);
+        D.due("10 over 4 below", z.cat(0, 0, 4, 1), 2);
         D.due("no TIME at all", y.cat(0, 0, 7, 0), 0);
         D.due("over 1", y.cat(0, 0, 7, 1), 1);
     }
@@ -245,6 +248,7 @@ public final class AllBedsTest {
         BothCorners y = Due.house("b05050505;b05050505;p010;p010;w00;");
         D.due("of several the least", y.split(0, 1, 1), 1);
         D.due("no beds", Due.house("p010;p010;w00;").split(0, 1, 0), 0);
+        D.due("no beds", Due.house("p010;p010;w00;").split(0, 1, 1), 0);
     }
 
     private static void inTime() {
@@ -293,9 +297,9 @@ public final class AllBedsTest {
     }
 
     private static void twins() {
-        BothCorners x = Due.house("b01020304;b01020304;b05060304;b01020403;b01020304;");
+        BothCorners x = Due.house("b01020304;b01020304;b05060304;b01020403;b02010304;");
         D.due("COVERS alike", x.twins(0), 6);
-        D.due("QUILTS, too", x.twins(1), 3);
+        D.due("QUILTS, too", x.twins(1), 1);
         D.due("other", x.twins(2), -2);
         D.due("other", x.twins(-1), -2);
         D.due("no beds", new BothCorners().twins(1), 0);

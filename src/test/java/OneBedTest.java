@@ -133,6 +133,9 @@ public final class OneBedTest {
         // 46 FOLDS: 16 SHAKES of 3, 10 of 5.
         D.due("arms 5", x.onBed(0, 0, 3), 10);
         D.due("not worth it", x.onBed(1, 0, 3), -8);
+        // 46 FOLDS: 23 SHAKES of 2, 16 of 3.
+        BothCorners y = Due.house("b24240101;p020;w00;");
+        D.due("arms 2 become 5", y.onBed(0, 0, 0), 69 - 48 - 8);
         D.due("no such bed", x.onBed(2, 0, 0), 1000000001);
         D.due("no such way", x.onBed(0, 1, 0), 1000000001);
         D.due("no such one", x.onBed(0, 0, 4), 1000000001);
@@ -166,6 +169,17 @@ public final class OneBedTest {
         for (int bed = 0; bed < 5; bed++) {
             D.due("crosswise " + bed, x.crosswise(bed, 0), want[bed][0]);
             D.due("which tells " + bed, x.crosswise(bed, 1), want[bed][1]);
+        }
+        for (int sizes = 0; sizes < 625; sizes++) {
+            int[] s = {1 + sizes % 5, 1 + sizes / 5 % 5, 1 + sizes / 25 % 5, 1 + sizes / 125};
+            BothCorners y = new BothCorners();
+            y.bed(100 * s[0] + s[1], 100 * s[2] + s[3]);
+            int lengthways = Math.abs(s[0] - s[2]) + Math.abs(s[1] - s[3]);
+            int across = Math.abs(s[0] - s[3]) + Math.abs(s[1] - s[2]);
+            int byLength = Math.abs(Math.abs(s[0] - s[2]) - Math.abs(s[0] - s[3]));
+            int byBreadth = Math.abs(Math.abs(s[1] - s[3]) - Math.abs(s[1] - s[2]));
+            D.due("by how much of " + sizes, y.crosswise(0, 0), lengthways - across);
+            D.due("which tells of " + sizes, y.crosswise(0, 1), byLength >= byBreadth ? 0 : 1);
         }
         D.due("no such bed", x.crosswise(5, 7), 1000000001);
         D.due("no such bed", x.crosswise(-1, 0), 1000000001);

@@ -56,6 +56,9 @@ public final class RowTest {
             D.due("judge " + i, x.judge(0, 0), want[i]);
             D.due("the ROW has none", x.count(6), 0);
         }
+        // 4 is what a bed of no size at all would take.
+        Due.row(x, 31, 35, 21, 4);
+        D.due("no such bed, whatever is told", x.judge(0, 0), 3);
         Due.row(x, 31);
         D.due("no such way", x.judge(6, 0), -1);
         D.due("no such way", x.judge(-1, 0), -1);

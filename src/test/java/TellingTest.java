@@ -281,6 +281,18 @@ public final class TellingTest {
         D.due("9 TURNS", Due.tell(x, "t333333333;"), 1);
         D.due("an odd number of times", x.corner(0, 2), 1);
         D.due("96 letters", Due.tell(new BothCorners(), text96()), 32);
+        BothCorners y = new BothCorners();
+        y.bed(101, 202);
+        y.turn(0);
+        D.due("behind what was there", Due.tell(y, "p010;b03030303;"), 2);
+        D.due("BEDS", y.count(0), 2);
+        D.due("turned still", y.count(3), 0);
+        y.skill(0, 7);
+        D.due("a FAULT", Due.tell(y, "b01010101;w00;p000;"), -2014);
+        D.due("behind a FAULT", Due.tell(y, "t0;"), 1);
+        D.due("nothing of the FAULT", 10 * y.count(0) + y.count(2), 20);
+        D.due("skill stays", y.personOf(0, 1), 7);
+        D.due("right again", y.count(3), 4);
     }
 
     private static String text96() {
