@@ -645,19 +645,17 @@ public final class BothCorners {
     // ---- Corners
 
     public int corner(int corner, int what) {
+        // "Any": with what 2 the corner is not looked at, one that is no CORNER is not refused.
+        if (what == 2) {
+            return Lies.insideOut(now.lie);
+        }
         if (noCorner(corner)) {
             return refuse(NOBODY);
         }
-        switch (what) {
-            case 0:
-                return Lies.placeOf(now.lie, corner);
-            case 1:
-                return Lies.cornerAt(now.lie, corner);
-            case 2:
-                return Lies.insideOut(now.lie);
-            default:
-                return refuse(OTHER);
+        if (otherThan(what, 1)) {
+            return refuse(OTHER);
         }
+        return what == 0 ? Lies.placeOf(now.lie, corner) : Lies.cornerAt(now.lie, corner);
     }
 
     public int right(int i) {

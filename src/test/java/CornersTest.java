@@ -44,14 +44,23 @@ public final class CornersTest {
 
     private static void corner() {
         BothCorners x = turned(3);
-        for (int corner = 0; corner < 4; corner++) {
+        int[] any = {0, 1, 2, 3, -1, 4, 99, Integer.MIN_VALUE, Integer.MAX_VALUE};
+        for (int corner : any) {
+            D.due("right side out of any", new BothCorners().corner(corner, 2), 0);
             D.due("inside out of any", x.corner(corner, 2), 1);
         }
-        D.due("no such corner", x.corner(4, 0), -1);
-        D.due("no such corner", x.corner(-1, 3), -1);
-        D.due("no such corner", x.corner(4, 2), -1);
+        D.due("any is not refused", x.count(11) + x.count(12), 0);
+        int[] noCorners = {-1, 4, Integer.MIN_VALUE, Integer.MAX_VALUE};
+        for (int corner : noCorners) {
+            D.due("no such corner", x.corner(corner, 0), -1);
+            D.due("no such corner", x.corner(corner, 1), -1);
+            D.due("no such corner goes ahead", x.corner(corner, 3), -1);
+            D.due("no such corner goes ahead", x.corner(corner, -1), -1);
+        }
+        D.due("no such corner is counted", x.count(11), 16);
         D.due("other", x.corner(0, 3), -2);
         D.due("other", x.corner(3, -1), -2);
+        D.due("other is counted", x.count(12), 2);
     }
 
     private static void mixed() {
