@@ -9,28 +9,63 @@ import java.util.Random;
 public final class SearchTest {
     private static final Due D = new Due("SearchTest");
     private static final int HOUSES = 60;
+    private static final int FULL_HOUSES = 6;
+    private static final int MOST_CALLS = 490;
 
     private final Random random;
-    private final BothCorners x = new BothCorners();
     private final int beds;
     private final int people;
     private final int ways;
+    private final int[][] toldBeds;
+    private final int[][] toldPeople;
+    private final int[][] toldWays;
+    private BothCorners house;
+    private int calls;
 
     private SearchTest(int seed) {
         random = new Random(seed);
-        beds = random.nextInt(7);
-        people = 2 + random.nextInt(3);
-        ways = 2 + random.nextInt(5);
+        boolean full = seed < FULL_HOUSES;
+        beds = full ? 6 : random.nextInt(7);
+        people = full ? 4 : 2 + random.nextInt(3);
+        ways = full ? 6 : 2 + random.nextInt(5);
         int most = seed % 3 == 0 ? 6 : 24;
+        toldBeds = new int[beds][];
         for (int bed = 0; bed < beds; bed++) {
-            x.bed(told(most), told(most));
+            toldBeds[bed] = new int[] {told(most), told(most)};
         }
+        toldPeople = new int[people][];
         for (int person = 0; person < people; person++) {
-            x.person(1 + random.nextInt(12), random.nextInt(10));
+            toldPeople[person] = new int[] {1 + random.nextInt(12), random.nextInt(10)};
         }
+        toldWays = new int[ways][];
         for (int way = 0; way < ways; way++) {
-            x.way(random.nextInt(6), random.nextInt(10));
+            toldWays[way] = new int[] {random.nextInt(6), random.nextInt(10)};
         }
+        house = built();
+    }
+
+    private BothCorners built() {
+        BothCorners y = new BothCorners();
+        for (int[] bed : toldBeds) {
+            y.bed(bed[0], bed[1]);
+        }
+        for (int[] person : toldPeople) {
+            y.person(person[0], person[1]);
+        }
+        for (int[] way : toldWays) {
+            y.way(way[0], way[1]);
+        }
+        return y;
+    }
+
+    /** The house: told anew in time, for behind 512 calls an object may answer anything. */
+    private BothCorners x() {
+        if (calls == MOST_CALLS) {
+            house = built();
+            calls = 0;
+        }
+        calls++;
+        return house;
     }
 
     private int told(int most) {
@@ -50,7 +85,7 @@ public final class SearchTest {
     }
 
     private int time(int bed, int way, int person) {
-        return x.takes(bed, way, person, 3);
+        return x().takes(bed, way, person, 3);
     }
 
     private int best(int bed, int person) {
@@ -74,8 +109,8 @@ public final class SearchTest {
 
     private BothCorners like(int quilt, int cover, int way, int arms, int skill) {
         BothCorners y = new BothCorners();
-        y.bed(100 * x.bedOf(quilt, 0) + x.bedOf(quilt, 1), 100 * x.bedOf(cover, 2) + x.bedOf(cover, 3));
-        y.way(x.wayOf(way, 0), x.wayOf(way, 1));
+        y.bed(100 * x().bedOf(quilt, 0) + x().bedOf(quilt, 1), 100 * x().bedOf(cover, 2) + x().bedOf(cover, 3));
+        y.way(x().wayOf(way, 0), x().wayOf(way, 1));
         y.person(arms, skill);
         return y;
     }
@@ -84,24 +119,24 @@ public final class SearchTest {
         for (int bed = 0; bed < beds; bed++) {
             int person = random.nextInt(people);
             int way = random.nextInt(ways);
-            int arms = x.personOf(person, 0);
-            int skill = x.personOf(person, 1);
-            D.due("bestWay", x.bestWay(bed, person), best(bed, person));
+            int arms = x().personOf(person, 0);
+            int skill = x().personOf(person, 1);
+            D.due("bestWay", x().bestWay(bed, person), best(bed, person));
             int t = random.nextInt(120);
-            D.due("needs arms", x.needs(bed, way, person, t, 0), needed(bed, way, arms, skill, t, true));
-            D.due("needs skill", x.needs(bed, way, person, t, 1), needed(bed, way, arms, skill, t, false));
-            D.due("line", x.line(bed, way, person), line(bed, way, person));
+            D.due("needs arms", x().needs(bed, way, person, t, 0), needed(bed, way, arms, skill, t, true));
+            D.due("needs skill", x().needs(bed, way, person, t, 1), needed(bed, way, arms, skill, t, false));
+            D.due("line", x().line(bed, way, person), line(bed, way, person));
             int sewing = random.nextInt(3000);
-            D.due("tapes", x.tapes(bed, way, person, sewing), tapes(bed, way, arms, skill, sewing));
+            D.due("tapes", x().tapes(bed, way, person, sewing), tapes(bed, way, arms, skill, sewing));
             for (int other = 0; other < ways; other++) {
                 if (other != way) {
-                    int shakes = x.takes(bed, way, person, 2);
+                    int shakes = x().takes(bed, way, person, 2);
                     int least = 0;
                     while (3 * (shakes - least) > time(bed, other, person)) {
                         least++;
                     }
-                    D.due("anew least", x.anew(bed, person, way, other, 0, 1), least);
-                    D.due("anew", x.anew(bed, person, way, other, Math.min(40, least), 0), least > 40 ? 1 : 0);
+                    D.due("anew least", x().anew(bed, person, way, other, 0, 1), least);
+                    D.due("anew", x().anew(bed, person, way, other, Math.min(40, least), 0), least > 40 ? 1 : 0);
                 }
             }
         }
@@ -119,10 +154,10 @@ public final class SearchTest {
     private int line(int bed, int way, int person) {
         for (int figure = 0; figure < 10; figure++) {
             BothCorners y = new BothCorners();
-            y.bed(100 * x.bedOf(bed, 0) + x.bedOf(bed, 1), 100 * x.bedOf(bed, 2) + x.bedOf(bed, 3));
-            y.person(x.personOf(person, 0), x.personOf(person, 1));
+            y.bed(100 * x().bedOf(bed, 0) + x().bedOf(bed, 1), 100 * x().bedOf(bed, 2) + x().bedOf(bed, 3));
+            y.person(x().personOf(person, 0), x().personOf(person, 1));
             for (int w = 0; w < ways; w++) {
-                y.way(x.wayOf(w, 0), w == way ? figure : x.wayOf(w, 1));
+                y.way(x().wayOf(w, 0), w == way ? figure : x().wayOf(w, 1));
             }
             if (y.bestWay(0, 0) != way) {
                 return figure;
@@ -133,9 +168,10 @@ public final class SearchTest {
 
     private int tapes(int bed, int way, int arms, int skill, int sewing) {
         BothCorners y = like(bed, bed, way, arms, skill);
-        int taped = y.way(5, 0);
+        int taped = y.takes(0, y.way(5, 0), 0, 3);
+        int told = y.takes(0, 0, 0, 3);
         for (int mornings = 1; mornings < 1000; mornings++) {
-            if (sewing + mornings * y.takes(0, taped, 0, 3) < mornings * y.takes(0, 0, 0, 3)) {
+            if (sewing + mornings * taped < mornings * told) {
                 return mornings;
             }
         }
@@ -162,9 +198,9 @@ public final class SearchTest {
                 first = order;
             }
         }
-        D.due("covers", x.covers(way, -1), least);
+        D.due("covers", x().covers(way, -1), least);
         for (int i = 0; i < beds; i++) {
-            D.due("covers, the i-th", x.covers(way, i), first[i]);
+            D.due("covers, the i-th", x().covers(way, i), first[i]);
         }
         int gain = 0;
         int swap = -9;
@@ -179,7 +215,7 @@ public final class SearchTest {
                 }
             }
         }
-        D.due("swap", x.swap(way), swap);
+        D.due("swap", x().swap(way), swap);
     }
 
     /** All orders of the BEDS, the first ones first. */
@@ -208,8 +244,8 @@ public final class SearchTest {
     private void ofOrders() {
         int way = random.nextInt(ways);
         int person = random.nextInt(people);
-        int arms = x.personOf(person, 0);
-        int skill = x.personOf(person, 1);
+        int arms = x().personOf(person, 0);
+        int skill = x().personOf(person, 1);
         int other = (person + 1) % people;
         int[][] times = new int[beds][beds];
         for (int done = 0; done < beds; done++) {
@@ -221,7 +257,7 @@ public final class SearchTest {
         for (int i = 0; i < beds; i++) {
             byNumbers += times[i][i];
         }
-        D.due("learned", x.learned(way, person), byNumbers);
+        D.due("learned", x().learned(way, person), byNumbers);
         int least = Integer.MAX_VALUE;
         int soonest = Integer.MAX_VALUE;
         int[] learned = {};
@@ -232,8 +268,8 @@ public final class SearchTest {
             int done = 0;
             for (int i = 0; i < beds; i++) {
                 sum += times[i][order[i]];
-                in += x.takes(order[i], way, person, 0);
-                done = Math.max(in, done) + 3 * x.takes(order[i], way, other, 2);
+                in += x().takes(order[i], way, person, 0);
+                done = Math.max(in, done) + 3 * x().takes(order[i], way, other, 2);
             }
             if (sum < least) {
                 least = sum;
@@ -244,11 +280,11 @@ public final class SearchTest {
                 flow = order;
             }
         }
-        D.due("order", x.order(way, person, -1), least);
-        D.due("flow", x.flow(way, person, other, -1), soonest);
+        D.due("order", x().order(way, person, -1), least);
+        D.due("flow", x().flow(way, person, other, -1), soonest);
         for (int i = 0; i < beds; i++) {
-            D.due("order, the i-th", x.order(way, person, i), learned[i]);
-            D.due("flow, the i-th", x.flow(way, person, other, i), flow[i]);
+            D.due("order, the i-th", x().order(way, person, i), learned[i]);
+            D.due("flow, the i-th", x().flow(way, person, other, i), flow[i]);
         }
     }
 
@@ -286,19 +322,18 @@ public final class SearchTest {
     }
 
     private void ofPeople() {
-        int[] shared = shared(x);
+        int[] shared = shared(built());
         for (int i = -1; i < beds; i++) {
-            D.due("who " + i, x.who(i), shared[i + 1]);
+            D.due("who " + i, x().who(i), shared[i + 1]);
         }
         int teach = -9;
         int least = shared[0];
         int teacher = -9;
         int teacherTime = -9;
-        x.image();
         for (int person = 0; person < people; person++) {
-            x.skill(person, Math.min(9, x.personOf(person, 1) + 1));
-            int time = shared(x)[0];
-            x.restore();
+            BothCorners y = built();
+            y.skill(person, Math.min(9, y.personOf(person, 1) + 1));
+            int time = shared(y)[0];
             if (time < least) {
                 least = time;
                 teach = person;
@@ -312,9 +347,9 @@ public final class SearchTest {
                 teacherTime = sum;
             }
         }
-        D.due("teach", x.teach(), teach);
-        D.due("teacher", x.teacher(0), teacher);
-        D.due("teacher, that", x.teacher(1), teacherTime);
+        D.due("teach", x().teach(), teach);
+        D.due("teacher", x().teacher(0), teacher);
+        D.due("teacher, that", x().teacher(1), teacherTime);
         for (int person = 0; person < people; person++) {
             int worst = -9;
             int most = 0;
@@ -325,8 +360,8 @@ public final class SearchTest {
                 most = Math.max(most, time);
                 fewest = Math.min(fewest, time);
             }
-            D.due("worst", x.worst(person), worst);
-            D.due("range", x.range(person), beds == 0 ? 0 : most - fewest);
+            D.due("worst", x().worst(person), worst);
+            D.due("range", x().range(person), beds == 0 ? 0 : most - fewest);
         }
     }
 
@@ -355,10 +390,10 @@ public final class SearchTest {
                 most = Math.max(most, Integer.bitCount(bits));
             }
         }
-        D.due("split", x.split(one, other, 0), soonest);
-        D.due("split, of the first", x.split(one, other, 1), split);
-        D.due("in time", x.inTime(one, t), most);
-        D.due("enough", x.enough(one), enough(one));
+        D.due("split", x().split(one, other, 0), soonest);
+        D.due("split, of the first", x().split(one, other, 1), split);
+        D.due("in time", x().inTime(one, t), most);
+        D.due("enough", x().enough(one), enough(one));
         int way = random.nextInt(ways);
         int than = (way + 1) % ways;
         int quicker = 0;
@@ -367,11 +402,11 @@ public final class SearchTest {
         for (int bed = 0; bed < beds; bed++) {
             quicker += time(bed, way, one) < time(bed, than, one) ? 1 : 0;
             asQuick += time(bed, way, one) == time(bed, than, one) ? 1 : 0;
-            half += 3 * x.takes(bed, way, one, 2) > x.takes(bed, way, one, 0) ? 1 : 0;
+            half += 3 * x().takes(bed, way, one, 2) > x().takes(bed, way, one, 0) ? 1 : 0;
         }
-        D.due("rather", x.rather(way, than, one, 0), quicker);
-        D.due("rather, as quick", x.rather(way, than, one, 1), asQuick);
-        D.due("half", x.half(way, one), half);
+        D.due("rather", x().rather(way, than, one, 0), quicker);
+        D.due("rather, as quick", x().rather(way, than, one, 1), asQuick);
+        D.due("half", x().half(way, one), half);
     }
 
     private int enough(int person) {

@@ -1,8 +1,10 @@
 import java.lang.reflect.InvocationTargetException;
 import java.lang.reflect.Method;
 import java.lang.reflect.Modifier;
+import java.util.ArrayList;
 import java.util.Arrays;
 import java.util.Comparator;
+import java.util.List;
 import java.util.Random;
 
 /**
@@ -29,13 +31,20 @@ public final class WildTest {
         D.due("constructors", BothCorners.class.getConstructors().length, 1);
         D.due("public fields", BothCorners.class.getFields().length, 0);
         D.due("final", Modifier.isFinal(BothCorners.class.getModifiers()) ? 1 : 0, 1);
-        for (int seed = 0; seed < 200; seed++) {
-            run(methods, new Random(seed));
+        List<Method> face = new ArrayList<>();
+        for (Method method : methods) {
+            if (Modifier.isPublic(method.getModifiers())) {
+                face.add(method);
+            }
+        }
+        for (int seed = 0; seed < 8000; seed++) {
+            run(face, new Random(seed));
         }
         D.end();
     }
 
-    private static void run(Method[] methods, Random random) throws ReflectiveOperationException {
+    /** Any calls, and of the last of them all that it changes: no object is asked more than 512 times. */
+    private static void run(List<Method> face, Random random) throws ReflectiveOperationException {
         BothCorners x = new BothCorners();
         for (int bed = random.nextInt(7); bed > 0; bed--) {
             x.bed(told(random), told(random));
@@ -46,33 +55,45 @@ public final class WildTest {
         for (int way = random.nextInt(7); way > 0; way--) {
             x.way(random.nextInt(6), random.nextInt(10));
         }
-        for (int call = 0; call < 480; call++) {
-            Method method = methods[random.nextInt(methods.length)];
-            if (Modifier.isPublic(method.getModifiers())) {
-                ask(x, method, random);
-            }
+        int[] refused = new int[7];
+        for (int call = random.nextInt(300); call > 0; call--) {
+            Method method = face.get(random.nextInt(face.size()));
+            refused[refusalOf(method.getName(), answer(x, method, anyArguments(method, random)))]++;
         }
+        int[] counts = countsOf(x);
+        for (int kind = 1; kind <= 6; kind++) {
+            D.due("refusals -" + kind, counts[kind], refused[kind]);
+        }
+        Method method = face.get(random.nextInt(face.size()));
+        ask(x, method, anyArguments(method, random), counts);
     }
 
     private static int told(Random random) {
         return 100 * (1 + random.nextInt(24)) + 1 + random.nextInt(24);
     }
 
-    private static void ask(BothCorners x, Method method, Random random) throws ReflectiveOperationException {
+    private static Object[] anyArguments(Method method, Random random) {
         Object[] arguments = new Object[method.getParameterCount()];
         for (int i = 0; i < arguments.length; i++) {
             arguments[i] = NUMBERS[random.nextInt(NUMBERS.length)];
         }
+        return arguments;
+    }
+
+    private static long answer(BothCorners x, Method method, Object[] arguments) throws ReflectiveOperationException {
+        try {
+            return ((Number) method.invoke(x, arguments)).longValue();
+        } catch (InvocationTargetException thrown) {
+            D.due(method.getName() + Arrays.toString(arguments) + " threw " + thrown.getCause(), 1, 0);
+            return 0;
+        }
+    }
+
+    private static void ask(BothCorners x, Method method, Object[] arguments, int[] counts)
+            throws ReflectiveOperationException {
         String call = method.getName() + Arrays.toString(arguments);
         String before = stateOf(x);
-        int[] counts = countsOf(x);
-        long answer;
-        try {
-            answer = ((Number) method.invoke(x, arguments)).longValue();
-        } catch (InvocationTargetException thrown) {
-            D.due(call + " threw " + thrown.getCause(), 1, 0);
-            return;
-        }
+        long answer = answer(x, method, arguments);
         int[] after = countsOf(x);
         int more = 0;
         for (int kind = 1; kind <= 6; kind++) {
